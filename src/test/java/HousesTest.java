@@ -273,10 +273,24 @@ final class HousesTest {
         c.due(y, "slumped(), the first by its MOMENT", y.slumped(), 5, 4);
         fact(y, 1, 4, 5);
         fact(y, 2, 4, 5);
+        slumpsAllOverAgain();
         SnowHouse one = Check.built("r9c0w2", "r1:0 r1:9", 1);
         pulls(one, 1, 9, 12);
         c.due("door(0), one just once", one.door(0), 0);
         pulls(one, 1, 11, 12);
+    }
+
+    /**
+     * BLOCKS 6 and 7 lie on the door and SLUMP; 4 and 5 were looked at ahead of them, with three on them and less
+     * to hold them now: they SLUMP at the next look.
+     */
+    private static void slumpsAllOverAgain() {
+        SnowHouse x = Check.built("r4c0w2", "r4:0 r4:4 r12:0", 1);
+        c.due(x, "slumped()", x.slumped(), 0, NONE);
+        pulls(x, 4, 10, 11);
+        c.due("door(3)", x.door(3), 16);
+        for (int i = 4; i < 20; i++) fact(x, i, 4, 19);
+        for (int i = 0; i < 3; i++) fact(x, i, 0, 1);
     }
 
     private static void promises22and23() {

@@ -8,6 +8,7 @@ import java.util.function.ToLongFunction;
 final class RandomTest {
     private static final int RUNS = 400;
     private static final int STEPS = 60;
+    private static final int FRAGILE = 10;
 
     /** A call on both, and from where to where each of its numbers mostly goes. */
     private record Call(String name, ToLongFunction<int[]> real, ToLongFunction<int[]> naive, int[] ranges) { }
@@ -116,6 +117,28 @@ final class RandomTest {
         check.due(name + ", digest()", x.digest(), y.digest());
     }
 
+    /** A SNOW and a PLAN that just STAND, or nearly: what a SLUMPED BLOCK does to others shows best there. */
+    private void writeFragile() {
+        int t = random.nextInt(4);
+        int k = random.nextInt(4);
+        int rub = random.nextInt(6);
+        write(t, "w2r" + rub + "c" + random.nextInt(4) + "g" + (1 + random.nextInt(6)));
+        check.due("snow", x.snow(k, t), y.snow(k, t));
+        StringBuilder text = new StringBuilder("m:1");
+        int n = 1 + random.nextInt(6);
+        for (int courses = 2 + random.nextInt(4); courses > 0; courses--) {
+            int lean = Math.min(9, Math.max(0, rub + random.nextInt(4) - 2));
+            text.append(random.nextBoolean() ? 'r' : 's').append(n).append(':').append(lean);
+            n = random.nextBoolean() ? 1 + random.nextInt(12) : 1 + random.nextInt(6);
+        }
+        write(t, text.toString());
+        check.due("plan", x.plan(k, t), y.plan(k, t));
+        int builders = 1 + random.nextInt(2);
+        check.due("house", x.house(k, k, builders), y.house(k, k, builders));
+        finish();
+        compareTold("a fragile HOUSE");
+    }
+
     private String snowText() {
         StringBuilder text = new StringBuilder();
         int[] most = {30, 9, 40, 9};
@@ -216,7 +239,10 @@ final class RandomTest {
             if (more == 1) writePlan();
             if (more == 2) finish();
             if (more == 3) askSlip();
+            if (more == 4) writeFragile();
         }
+        for (int i = 0; i < FRAGILE; i++) writeFragile();
+        askSlip();
         askSpiral();
     }
 

@@ -54,6 +54,8 @@ final class RowsTest {
         c.finds(x, "lay(0, 3, 1)", () -> x.lay(0, 3, 1), BEYOND);
         c.finds(x, "lay(0, -1, 1)", () -> x.lay(0, -1, 1), BEYOND);
         c.finds(x, "lay(1, -1, 1)", () -> x.lay(1, -1, 1), NOTHING);
+        x.row(2, 0);
+        c.finds(x, "lay(2, 0, 1), an empty ROW", () -> x.lay(2, 0, 1), BEYOND);
         c.at("promise 4");
         c.due(x, "at(0, 2)", x.at(0, 2), 1, -5);
         c.due(x, "at(0, 1)", x.at(0, 1), 1, 0);
@@ -61,6 +63,7 @@ final class RowsTest {
         c.refused(x, "at(6, 0)", () -> x.at(6, 0), BAD);
         c.refused(x, "at(-1, 0)", () -> x.at(-1, 0), BAD);
         c.finds(x, "at(1, 9)", () -> x.at(1, 9), NOTHING);
+        c.finds(x, "at(2, 0), an empty ROW", () -> x.at(2, 0), BEYOND);
         c.finds(x, "at(0, 3)", () -> x.at(0, 3), BEYOND);
         c.finds(x, "at(0, LEAST)", () -> x.at(0, LEAST), BEYOND);
     }
@@ -100,6 +103,10 @@ final class RowsTest {
         c.due("copy(0, 1, 0, 0, 4)", x.copy(0, 1, 0, 0, 4), 1);
         holds(x, "copy(0, 1, 0, 0, 4)", 0, 1, 2, 3, 4, 4);
         c.due("copy(0, 5, 1, 3, 0)", x.copy(0, 5, 1, 3, 0), 1);
+        c.due("copy(0, 2, 1, 0, 3), all of a ROW", x.copy(0, 2, 1, 0, 3), 1);
+        holds(x, "copy(0, 2, 1, 0, 3)", 1, 3, 4, 4);
+        x.row(2, 0);
+        c.due("copy(2, 0, 2, 0, 0), an empty ROW", x.copy(2, 0, 2, 0, 0), 1);
         c.finds(x, "copy(0, 6, 1, 0, 0)", () -> x.copy(0, 6, 1, 0, 0), BEYOND);
         c.finds(x, "copy(0, 0, 1, 4, 0)", () -> x.copy(0, 0, 1, 4, 0), BEYOND);
         c.finds(x, "copy(0, -1, 1, 0, 0)", () -> x.copy(0, -1, 1, 0, 0), BEYOND);
@@ -126,6 +133,9 @@ final class RowsTest {
         c.due(x, "mean of the most", x.mean(0), 1, MOST);
         fill(x, 0, LEAST, LEAST);
         c.due(x, "mean of the least", x.mean(0), 1, LEAST);
+        x.row(0, 60);
+        for (int i = 0; i < 60; i++) x.lay(0, i, i);
+        c.due(x, "mean of 0 to 59", x.mean(0), 1, 29);
         x.row(1, 0);
         c.finds(x, "mean(1)", () -> x.mean(1), NOUGHT);
         c.finds(x, "mean(2)", () -> x.mean(2), NOTHING);
@@ -158,6 +168,8 @@ final class RowsTest {
         c.finds(x, "put(0, 2, 1)", () -> x.put(0, 2, 1), BEYOND);
         c.finds(x, "put(0, -1, 1)", () -> x.put(0, -1, 1), BEYOND);
         c.finds(x, "put(1, -1, 1)", () -> x.put(1, -1, 1), NOTHING);
+        x.text(2, 0);
+        c.finds(x, "put(2, 0, 1), an empty TEXT", () -> x.put(2, 0, 1), BEYOND);
         c.refused(x, "put(4, 0, 1)", () -> x.put(4, 0, 1), BAD);
         c.refused(x, "put(-1, 0, 1)", () -> x.put(-1, 0, 1), BAD);
     }
@@ -273,6 +285,8 @@ final class RowsTest {
         c.refused(x, "plan(-1, 0)", () -> x.plan(-1, 0), BAD);
         c.refused(x, "plan(0, 4)", () -> x.plan(0, 4), BAD);
         c.refused(x, "plan(0, -1)", () -> x.plan(0, -1), BAD);
+        x.text(2, 0);
+        c.refused(x, "plan(3, 2), an empty TEXT", () -> x.plan(3, 2), STATE);
         Check.write(x, 1, "r3:2m:5r4");
         c.refused(x, "plan(3, 1) with a FAULT", () -> x.plan(3, 1), STATE);
         c.refused(x, "plan(1, 1) with a FAULT", () -> x.plan(1, 1), STATE);

@@ -26,6 +26,11 @@ final class StandsTest {
         c.due(least, "falls(), the least of two", least.falls(), 1, 0);
         SnowHouse y = Check.begun(STILL, "r2:4 r2:4 r1:6 r1:0", 1);
         c.refused(y, "falls(), it STANDS", y::falls, NONE);
+        SnowHouse first = Check.begun(STILL, "r3:4 r12:0", 1);
+        c.due(first, "falls(), by what lies on the first below", first.falls(), 10, 1);
+        SnowHouse next = Check.begun("r4c3w2", "m:1 r2:4 r12:0", 1);
+        c.due(next, "falls(), by what lies on the next below", next.falls(), 7, 1);
+        c.due("pace(1), all but BLOCK 0", next.pace(1), 13);
         SnowHouse alone = Check.begun("r0c0w2", "r1:3r1:0", 1);
         c.due(alone, "falls(), 1 BUILDER", alone.falls(), 1, 0);
         SnowHouse two = Check.begun("r0c0w2", "r1:3r1:0", 2);
@@ -69,6 +74,8 @@ final class StandsTest {
         c.refused(f, "lean(3), by none", () -> f.lean(3), NONE);
         SnowHouse wide = Check.begun("r9w1", "r12:0", 1);
         c.due("lean(0), the most that there is", wide.lean(0), 9);
+        SnowHouse none0 = Check.begun("r0c0w2", "r2:5", 1);
+        c.due("lean(0), the least that there is", none0.lean(0), 0);
     }
 
     private static void promise28() {
@@ -96,6 +103,12 @@ final class StandsTest {
         c.due(s, "spiral(), of SPIRALS", s.spiral(), 2, 0);
         SnowHouse f = Check.begun("r0c0w9", "s1:9", 1);
         c.due(f, "spiral(), one falls by any", f.spiral(), 0, 1);
+        SnowHouse below = Check.begun("r0c0w2", "r1:3 r1:0", 1);
+        c.due(below, "spiral(), COURSE 0", below.spiral(), 1, 0);
+        SnowHouse least = Check.begun("r0c0w2", "s1:3 s1:0", 1);
+        c.due(least, "spiral(), the least bits", least.spiral(), 1, 0);
+        SnowHouse all = Check.begun("r0c0w9", "r12:9".repeat(5), 1);
+        c.due(all, "spiral(), all fall", all.spiral(), 0, 60);
         SnowHouse ring = Check.begun(STILL, "s3:0", 1);
         c.due(ring, "spiral(), a RING does", ring.spiral(), 0, 0);
         ring.go(3);
@@ -120,6 +133,7 @@ final class StandsTest {
         fill(x, 5, 1, 1, 1, 1);
         c.due(x, "fell(5), all", x.fell(5), 0, 2);
         fill(x, 0, 0, 0, 0, 0);
+        x.about(0, 1);
         c.refused(x, "fell(0), none", () -> x.fell(0), NONE);
         fill(x, 0, 0, 0, 0, 1);
         c.refused(x, "fell(0), one", () -> x.fell(0), NONE);
@@ -131,6 +145,8 @@ final class StandsTest {
         c.finds(x, "fell(1), a -1", () -> x.fell(1), UNLIKE);
         fill(x, 1, 2, 2, 2);
         c.finds(x, "fell(1), too few", () -> x.fell(1), SIZE);
+        x.row(1, 0);
+        c.finds(x, "fell(1), an empty ROW", () -> x.fell(1), SIZE);
         fill(x, 1, 0, 0, 1, 1, 0);
         c.finds(x, "fell(1), too many", () -> x.fell(1), SIZE);
         c.refused(x, "fell(6)", () -> x.fell(6), BAD);
@@ -139,6 +155,18 @@ final class StandsTest {
         c.due(m, "fell(2), MINUTES too", m.fell(2), 0, 3);
         fill(m, 2, 0, 0);
         c.due(m, "fell(2), none falls", m.fell(2), 2, 4);
+    }
+
+    /** LEAN 9 of HEAVY 1 pulls 4, as 8 does: only MINUTES matter. */
+    private static void slipsOfMinutes() {
+        SnowHouse x = Check.begun("g30r1c10w1", "r1:9 r1:0 m:2", 1);
+        fill(x, 0, 1, 1);
+        c.due(x, "fell(0), MINUTES one less", x.fell(0), 80, 1);
+        fill(x, 0, 0, 0);
+        c.due(x, "fell(0), none falls", x.fell(0), 2, 4);
+        Check.plan(x, 0, "r1:9 r1:0 m:1");
+        x.house(0, 0, 1);
+        c.due(x, "fell(0), MINUTES one more", x.fell(0), 90, 1);
     }
 
     private static void part(SnowHouse x, String call, int slips, long upper, long lower) {
@@ -267,6 +295,7 @@ final class StandsTest {
         promise28();
         promise29();
         promise30();
+        slipsOfMinutes();
         promise31();
         promise32();
         promise33();
