@@ -1,4 +1,6 @@
 import java.util.function.IntSupplier;
+import java.util.function.Supplier;
+import java.util.function.ToIntFunction;
 
 /** What the tests share: answers against what is due, and short ways to write TEXTS, SNOWS and PLANS. */
 final class Check {
@@ -29,7 +31,7 @@ final class Check {
         int[] tallies = tallies(x);
         due(call, made.getAsInt(), want);
         same(call, before, told(x));
-        for (int f = 0; f <= 5; f++) due(call + ", findings(" + f + ")", tallies(x)[f], tallies[f]);
+        sameTallies(x, call, tallies);
     }
 
     /** A call refused by a FINDING: that one is told, all else stays. */
@@ -40,7 +42,33 @@ final class Check {
         same(call, before, told(x));
         tallies[0] = finding;
         tallies[finding]++;
-        for (int f = 0; f <= 5; f++) due(call + ", findings(" + f + ")", tallies(x)[f], tallies[f]);
+        sameTallies(x, call, tallies);
+    }
+
+    /** As above, on an object made for this call alone: what no call tells now is the same as without it, too. */
+    void refused(Supplier<SnowHouse> maker, String call, ToIntFunction<SnowHouse> made, int want) {
+        SnowHouse x = maker.get();
+        refused(x, call, () -> made.applyAsInt(x), want);
+        same(call, probed(maker.get()), probed(x));
+    }
+
+    void finds(Supplier<SnowHouse> maker, String call, ToIntFunction<SnowHouse> made, int finding) {
+        SnowHouse x = maker.get();
+        finds(x, call, () -> made.applyAsInt(x), finding);
+        same(call, probed(maker.get()), probed(x));
+    }
+
+    /** A call on an object made for it alone that is neither refused nor NONE. */
+    void taken(Supplier<SnowHouse> maker, String call, ToIntFunction<SnowHouse> made) {
+        SnowHouse x = maker.get();
+        int[] tallies = tallies(x);
+        int answer = made.applyAsInt(x);
+        checks++;
+        if (answer < 0) {
+            wrong++;
+            System.out.println(where + ": " + call + " answered " + answer + ", but it is to be taken");
+        }
+        sameTallies(x, call, tallies);
     }
 
     private void same(String call, String before, String after) {
@@ -50,9 +78,28 @@ final class Check {
         System.out.println(where + ": " + call + " changed " + before + " to " + after);
     }
 
+    private void sameTallies(SnowHouse x, String call, int[] want) {
+        int[] got = tallies(x);
+        due(call + ", finding()", got[0], want[0]);
+        for (int f = 1; f <= 5; f++) due(call + ", findings(" + f + ")", got[f], want[f]);
+    }
+
     /** What a refused call must not change. */
     private static String told(SnowHouse x) {
         return x.digest() + " " + x.asked() + " " + x.upper() + " " + x.lower();
+    }
+
+    /** What comes of the HOUSE and of the kept ones, which digest() tells in part alone; it changes the object. */
+    private static String probed(SnowHouse x) {
+        StringBuilder all = new StringBuilder();
+        for (int k = -1; k < 3; k++) {
+            if (k >= 0) all.append(" on ").append(x.on(k));
+            all.append(' ').append(x.pull(0)).append(' ').append(x.asked()).append(' ').append(x.odds());
+            all.append(' ').append(x.upper()).append(' ').append(x.pace(1)).append(' ').append(x.spiral());
+            all.append(' ').append(x.falls()).append(' ').append(x.asked()).append(' ').append(x.go(1));
+            all.append(' ').append(x.door(0)).append(' ').append(x.digest());
+        }
+        return all.toString();
     }
 
     /** finding(), then findings(1) to findings(5). */
@@ -86,6 +133,11 @@ final class Check {
     static int plan(SnowHouse x, int k, String signs) {
         write(x, 0, signs);
         return x.plan(k, 0);
+    }
+
+    static void fill(SnowHouse x, int r, int... values) {
+        x.row(r, values.length);
+        for (int i = 0; i < values.length; i++) x.lay(r, i, values[i]);
     }
 
     /** A new object with SNOW 0, PLAN 0 and a HOUSE begun by them. */

@@ -81,11 +81,6 @@ final class RowsTest {
         c.refused(x, "tear(-1)", () -> x.tear(-1), BAD);
     }
 
-    private static void fill(SnowHouse x, int r, int... values) {
-        x.row(r, values.length);
-        for (int i = 0; i < values.length; i++) x.lay(r, i, values[i]);
-    }
-
     private static void holds(SnowHouse x, String call, int r, int... values) {
         for (int i = 0; i < values.length; i++) c.due(x, call + ", at " + i, x.at(r, i), 1, values[i]);
         c.due(call + ", size", x.at(r, values.length), -3);
@@ -94,8 +89,8 @@ final class RowsTest {
     private static void promise6() {
         c.at("promise 6");
         SnowHouse x = new SnowHouse();
-        fill(x, 0, 1, 2, 3, 4, 5);
-        fill(x, 1, 9, 9, 9);
+        Check.fill(x, 0, 1, 2, 3, 4, 5);
+        Check.fill(x, 1, 9, 9, 9);
         c.due("copy(0, 1, 1, 0, 2)", x.copy(0, 1, 1, 0, 2), 1);
         holds(x, "copy(0, 1, 1, 0, 2)", 1, 2, 3, 9);
         c.due("copy(0, 0, 0, 1, 4)", x.copy(0, 0, 0, 1, 4), 1);
@@ -125,13 +120,13 @@ final class RowsTest {
     private static void promise7() {
         c.at("promise 7");
         SnowHouse x = new SnowHouse();
-        fill(x, 0, 1, 2, 4);
+        Check.fill(x, 0, 1, 2, 4);
         c.due(x, "mean of 1 2 4", x.mean(0), 1, 2);
-        fill(x, 0, -1, -2, -5);
+        Check.fill(x, 0, -1, -2, -5);
         c.due(x, "mean of -1 -2 -5", x.mean(0), 1, -2);
-        fill(x, 0, MOST, MOST, MOST);
+        Check.fill(x, 0, MOST, MOST, MOST);
         c.due(x, "mean of the most", x.mean(0), 1, MOST);
-        fill(x, 0, LEAST, LEAST);
+        Check.fill(x, 0, LEAST, LEAST);
         c.due(x, "mean of the least", x.mean(0), 1, LEAST);
         x.row(0, 60);
         for (int i = 0; i < 60; i++) x.lay(0, i, i);

@@ -115,11 +115,6 @@ final class StandsTest {
         c.due(ring, "pull(0), the HOUSE as it is", ring.pull(0), 0, 9);
     }
 
-    private static void fill(SnowHouse x, int r, int... values) {
-        x.row(r, values.length);
-        for (int i = 0; i < values.length; i++) x.lay(r, i, values[i]);
-    }
-
     private static void promise30() {
         c.at("promise 30");
         SnowHouse none = empty();
@@ -128,41 +123,41 @@ final class StandsTest {
         c.refused(none, "fell(0), no HOUSE", () -> none.fell(0), STATE);
         SnowHouse x = Check.begun("r2c0w2", "r2:2 r2:4", 1);
         c.finds(x, "fell(0), no ROW", () -> x.fell(0), NOTHING);
-        fill(x, 0, 0, 0, 1, 1);
+        Check.fill(x, 0, 0, 0, 1, 1);
         c.due(x, "fell(0), the upper two", x.fell(0), 2, 6);
-        fill(x, 5, 1, 1, 1, 1);
+        Check.fill(x, 5, 1, 1, 1, 1);
         c.due(x, "fell(5), all", x.fell(5), 0, 2);
-        fill(x, 0, 0, 0, 0, 0);
+        Check.fill(x, 0, 0, 0, 0, 0);
         x.about(0, 1);
         c.refused(x, "fell(0), none", () -> x.fell(0), NONE);
-        fill(x, 0, 0, 0, 0, 1);
+        Check.fill(x, 0, 0, 0, 0, 1);
         c.refused(x, "fell(0), one", () -> x.fell(0), NONE);
-        fill(x, 0, 1, 1, 0, 0);
+        Check.fill(x, 0, 1, 1, 0, 0);
         c.refused(x, "fell(0), the lower two", () -> x.fell(0), NONE);
-        fill(x, 1, 0, 0, 2, 1);
+        Check.fill(x, 1, 0, 0, 2, 1);
         c.finds(x, "fell(1), a 2", () -> x.fell(1), UNLIKE);
-        fill(x, 1, 0, 0, -1, 1);
+        Check.fill(x, 1, 0, 0, -1, 1);
         c.finds(x, "fell(1), a -1", () -> x.fell(1), UNLIKE);
-        fill(x, 1, 2, 2, 2);
+        Check.fill(x, 1, 2, 2, 2);
         c.finds(x, "fell(1), too few", () -> x.fell(1), SIZE);
         x.row(1, 0);
         c.finds(x, "fell(1), an empty ROW", () -> x.fell(1), SIZE);
-        fill(x, 1, 0, 0, 1, 1, 0);
+        Check.fill(x, 1, 0, 0, 1, 1, 0);
         c.finds(x, "fell(1), too many", () -> x.fell(1), SIZE);
         c.refused(x, "fell(6)", () -> x.fell(6), BAD);
         SnowHouse m = Check.begun("r0c10w2g30", "r1:3r1:0m:2", 1);
-        fill(m, 2, 1, 1);
+        Check.fill(m, 2, 1, 1);
         c.due(m, "fell(2), MINUTES too", m.fell(2), 0, 3);
-        fill(m, 2, 0, 0);
+        Check.fill(m, 2, 0, 0);
         c.due(m, "fell(2), none falls", m.fell(2), 2, 4);
     }
 
     /** LEAN 9 of HEAVY 1 pulls 4, as 8 does: only MINUTES matter. */
     private static void slipsOfMinutes() {
         SnowHouse x = Check.begun("g30r1c10w1", "r1:9 r1:0 m:2", 1);
-        fill(x, 0, 1, 1);
+        Check.fill(x, 0, 1, 1);
         c.due(x, "fell(0), MINUTES one less", x.fell(0), 80, 1);
-        fill(x, 0, 0, 0);
+        Check.fill(x, 0, 0, 0);
         c.due(x, "fell(0), none falls", x.fell(0), 2, 4);
         Check.plan(x, 0, "r1:9 r1:0 m:1");
         x.house(0, 0, 1);
