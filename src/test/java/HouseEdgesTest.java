@@ -69,6 +69,10 @@ final class HouseEdgesTest {
         holds("s2:0", 2, 5, 5);
         holds("s3:0", 2, 2, 2);
         holds("s3:0", 3, 5, 7, 5);
+        SnowHouse most = Check.built("r0c0w1", "s12:0".repeat(5), 1);
+        pulls(most, 0, 2, 5);
+        pulls(most, 12, 2, 7);
+        pulls(most, 59, 0, 5);
         holds("s12:0", 12, 5, 7, 7, 7, 7, 7, 7, 7, 7, 7, 7, 5);
         holds("s1:0s1:0s1:0", 2, 5, 5);
         holds("s1:0s1:0s1:0", 3, 5, 7, 5);
@@ -313,6 +317,25 @@ final class HouseEdgesTest {
         c.due("door(0)", again.door(0), 2);
     }
 
+    private static void slumpsByDoor(String snow, String plan, int p, int... slumped) {
+        SnowHouse x = Check.built(snow, plan, 1);
+        c.due("slumped() ahead of door(" + p + ") of " + plan, x.slumped(), 0);
+        c.due("door(" + p + ") of " + plan, x.door(p), slumped.length);
+        x.tells(0, 2);
+        int last = x.asked() - 1;
+        for (int i : slumped) fact(x, i, 4, last);
+        fact(x, p, 4, NONE);
+    }
+
+    /** BLOCK 0 is looked at, too, and again; those on it SLUMP, be it the first or the next on which they REST. */
+    private static void doorsBesideTheFirst() {
+        slumpsByDoor("r1c0w2", "r2:1r1:3", 1, 0, 2);
+        slumpsByDoor("r0c0w2", "s2:0r1:0", 1, 0, 2);
+        slumpsByDoor("r3c0w2", "s2:2s2:1", 1, 0, 2, 3);
+        // 0 just holds as long as 2 does; 2 SLUMPS and with it 5, 6, 7; at the next look 0 SLUMPS, then 3 and 4
+        slumpsByDoor("r3c3w2g9", "r3:3r5:2m:1", 1, 0, 2, 3, 4, 5, 6, 7);
+    }
+
     private static void keeps() {
         c.at("promises 22, 23");
         SnowHouse x = Check.begun(STILL, "r3:0s3:5r12:0", 1);
@@ -378,6 +401,7 @@ final class HouseEdgesTest {
         marks();
         doors();
         doorsBelowOne();
+        doorsBesideTheFirst();
         keeps();
         firstSlumped();
         c.end("HouseEdgesTest");

@@ -39,6 +39,18 @@ final class LanguageTest {
         }
     }
 
+    /** Calls make no object: all is made with the SnowHouse, so that a run's room does not grow with its calls. */
+    private static void makes(String code) {
+        boolean inConstructor = false;
+        for (String line : code.split("\n")) {
+            if (line.startsWith("    public SnowHouse()")) inConstructor = true;
+            if (line.equals("    }")) inConstructor = false;
+            boolean isField = line.matches("\\s+(private )?(final )?[\\w\\[\\]]+ \\w+ = new .*;");
+            boolean makes = Pattern.compile("\\bnew\\b").matcher(line).find();
+            c.due("made with the SnowHouse:" + line, !makes || isField || inConstructor ? 1 : 0, 1);
+        }
+    }
+
     private static void sizes() {
         int classes = 1;
         for (Class<?> inside : SnowHouse.class.getDeclaredClasses()) {
@@ -53,6 +65,7 @@ final class LanguageTest {
         c.at("LANGUAGE.md");
         words(code);
         methods(code);
+        makes(code);
         sizes();
         c.end("LanguageTest");
     }

@@ -230,9 +230,10 @@ final class ToldEdgesTest {
     /** Missing is -1, empty 0; ints and bytes come with their signs. */
     private static void digests() {
         c.at("promise 47");
+        furnished();
         SnowHouse x = new SnowHouse();
         long none = mixed(0, 0, 0, 0, 0, 0, 0, 0, -1, -1, -1, -1, -1, -1, -1, -1, -1, -1, -1, -1, -1, -1, -1, -1, -1, -1, -1);
-        c.due("digest(), new", x.digest(), none);
+        c.due("digest(), new, whatever another object has", x.digest(), none);
         x.row(0, 0);
         c.due("digest(), an empty ROW", x.digest(),
                 mixed(0, 0, 0, 0, 0, 0, 1, 0, -1, -1, -1, -1, -1, -1, -1, -1, -1, 0, -1, -1, -1, -1, -1, -1, -1, -1, -1));
