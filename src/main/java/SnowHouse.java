@@ -936,7 +936,7 @@ public final class SnowHouse {
             states[b] = SOUND;
             laid++;
             load(b, 1);
-            if (gives(b) || gives(first) || gives(next)) settle(first < 0 ? b : Math.min(first, next));
+            if (gives(b) || gives(first) || gives(next)) settle();
         }
 
         void cutOut(int b) {
@@ -944,7 +944,7 @@ public final class SnowHouse {
             states[b] = GONE;
             cut = b;
             lost[courseOf[b]]++;
-            settle(0);
+            settle();
         }
 
         private void load(int b, int more) {
@@ -954,20 +954,11 @@ public final class SnowHouse {
             if (next >= 0 && next != first) loads[next] += more;
         }
 
-        /**
-         * Looks at BLOCKS as long as any SLUMPS. One that does weakens none ahead of its COURSE but the one next
-         * to it, so the next look begins there.
-         */
-        private void settle(int from) {
-            int look = from;
-            for (int pass = 0; pass <= BLOCKS_MOST && look < laid; pass++) {
-                int again = laid;
-                for (int b = look; b < laid; b++) {
-                    if (!gives(b)) continue;
-                    slump(b);
-                    again = Math.min(again, Math.max(0, starts[courseOf[b]] - 1));
-                }
-                look = again;
+        private void settle() {
+            int fallenAhead = -1;
+            for (int look = 0; look <= BLOCKS_MOST && fallen > fallenAhead; look++) {
+                fallenAhead = fallen;
+                for (int b = 0; b < laid; b++) if (gives(b)) slump(b);
             }
         }
 

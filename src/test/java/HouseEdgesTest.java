@@ -336,6 +336,14 @@ final class HouseEdgesTest {
         slumpsByDoor("r3c3w2g9", "r3:3r5:2m:1", 1, 0, 2, 3, 4, 5, 6, 7);
     }
 
+    /**
+     * The first look takes 4 (beside the door), 12 to 15 by it, and 19 with those on it; the second 17 and 18, whose
+     * RING is open now; only the third the last of the COURSE below, 16, which has lost 15 and now 17, too.
+     */
+    private static void looksAgainBelow() {
+        slumpsByDoor("r0c0w2", "r7:0s10:1r3:0r7:0", 5, 4, 12, 13, 14, 15, 16, 17, 18, 19, 20, 21, 22, 23, 24, 25, 26);
+    }
+
     private static void keeps() {
         c.at("promises 22, 23");
         SnowHouse x = Check.begun(STILL, "r3:0s3:5r12:0", 1);
@@ -402,6 +410,7 @@ final class HouseEdgesTest {
         doors();
         doorsBelowOne();
         doorsBesideTheFirst();
+        looksAgainBelow();
         keeps();
         firstSlumped();
         c.end("HouseEdgesTest");
